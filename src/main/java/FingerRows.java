@@ -24,6 +24,7 @@ public final class FingerRows {
     private static final int LAST_COLUMN = 40;
     private static final int MOST_WIDE = 40;
     private static final int TURNS = 4;
+    private static final int ALL_TURNS = 15;
     private static final int BOTH_TURNED = 3;
     private static final int STANCES = 32;
     private static final int SETS = 256;
@@ -239,14 +240,14 @@ public final class FingerRows {
     }
 
     public long many() {
-        return told.total;
+        return told.total();
     }
 
     public int best(long k, int place, boolean turn) throws IndexOutOfBoundsException, IllegalArgumentException {
         if (!isPlace(place)) {
             throw new IndexOutOfBoundsException("there is no such place");
         }
-        if (k < 0 || k >= told.total) {
+        if (k < 0 || k >= told.total()) {
             throw new IllegalArgumentException("there is no such best one");
         }
         told.layInto(k, trialRow);
@@ -254,7 +255,7 @@ public final class FingerRows {
     }
 
     public int calm() {
-        return told.fewestBreaks;
+        return told.calmest[told.cell.allFingers()];
     }
 
     public int with(int first, int last) throws IndexOutOfBoundsException {
@@ -313,7 +314,7 @@ public final class FingerRows {
         }
         int shortest = 0;
         int shortestLength = lengthOf(0);
-        for (int k = 1; k < n && k < told.total; k++) {
+        for (int k = 1; k < n && k < told.total(); k++) {
             int nextLength = lengthOf(k);
             if (nextLength < shortestLength) {
                 shortest = k;
@@ -381,7 +382,7 @@ public final class FingerRows {
     }
 
     public int lay(long k) throws IllegalArgumentException {
-        if (k < 0 || k >= told.total) {
+        if (k < 0 || k >= told.total()) {
             throw new IllegalArgumentException("there is no such best one");
         }
         past.remember(row);
@@ -595,6 +596,10 @@ public final class FingerRows {
             return meeting[stance] & meeting[STANCES + stance];
         }
 
+        int meetingAtAll(int stance) {
+            return meeting[stance] | meeting[STANCES + stance];
+        }
+
         boolean areJoined(int stance, int next) {
             return (joining(stance) >>> next & 1) != 0;
         }
@@ -605,7 +610,7 @@ public final class FingerRows {
 
         boolean areTied(int finger, int next) {
             for (int turn = 0; turn < TURNS; turn++) {
-                if ((joining(finger * TURNS + turn) >>> next * TURNS & 15) != 0) {
+                if ((joining(finger * TURNS + turn) >>> next * TURNS & ALL_TURNS) != 0) {
                     return true;
                 }
             }
@@ -952,12 +957,13 @@ public final class FingerRows {
     private static final class Orders {
         Cell cell = new Cell();
         final Fewest any = new Fewest();
-        long total;
-        int fewestBreaks;
+        // by a set of fingers: how many of its orders have its fewest gaps, and the fewest breaks of these
+        final long[] totals = new long[SETS];
+        final int[] calmest = new int[SETS];
         private final Fewest ending = new Fewest();
-        // by a set and a stance of it: how many of its orders that begin so have the fewest gaps that such have
+        // by a set and a stance of it the same of those orders that begin so
         private final int[] ways = new int[SETS * STANCES];
-        // and the fewest breaks of these; the row is lent: it is used in prepare() alone
+        // this row is lent: it is used in prepare() alone
         private final int[] calms;
 
         Orders(int[] calms) {
@@ -970,58 +976,79 @@ public final class FingerRows {
             return before;
         }
 
+        long total() {
+            return totals[cell.allFingers()];
+        }
+
         void prepare() {
             cell.findMeetings();
             any.fill(cell, NONE);
+            totals[0] = 1;
+            calmest[0] = 0;
             int all = cell.allFingers();
             for (int set = 1; set <= all && set < SETS; set++) {
-                for (int stance = 0; stance < cell.fingers * TURNS; stance++) {
-                    if (has(set, stance / TURNS)) {
-                        weigh(set, stance);
-                    }
+                weighSet(set);
+            }
+        }
+
+        private void weighSet(int set) {
+            for (int stance = 0; stance < cell.fingers * TURNS; stance++) {
+                if (has(set, stance / TURNS)) {
+                    weigh(set, stance);
                 }
             }
-            sumUp(all);
+            totals[set] = waysOver(set, any.firsts[set]);
+            int fewest = FAR;
+            for (int stance = 0; stance < cell.fingers * TURNS; stance++) {
+                if ((any.firsts[set] >>> stance & 1) != 0) {
+                    fewest = Math.min(fewest, calms[set * STANCES + stance]);
+                }
+            }
+            calmest[set] = fewest;
         }
 
         private void weigh(int set, int stance) {
             int spot = set * STANCES + stance;
             int rest = without(set, stance / TURNS);
+            int firsts = any.firsts[rest];
+            int joining = cell.joining(stance);
             if (rest == 0) {
                 ways[spot] = 1;
                 calms[spot] = 0;
-                return;
+            } else if ((firsts & joining) != 0) {
+                ways[spot] = (int) waysOver(rest, firsts & joining);
+                calms[spot] = calmOver(rest, firsts & joining, stance);
+            } else {
+                // behind a gap any of the firsts may stand: those that meet nowhere need no look of their own
+                int seconds = any.seconds[rest] & joining;
+                ways[spot] = (int) (totals[rest] + waysOver(rest, seconds));
+                calms[spot] = Math.min(2 + calmest[rest],
+                    calmOver(rest, firsts & cell.meetingAtAll(stance) | seconds, stance));
             }
-            int nexts = any.nexts(cell, rest, stance);
-            int sum = 0;
+        }
+
+        private long waysOver(int set, int stances) {
+            long sum = 0;
+            int rest = stances;
+            for (int left = Integer.bitCount(stances); left > 0; left--) {
+                sum += ways[set * STANCES + lowestBit(rest)];
+                rest &= rest - 1;
+            }
+            return sum;
+        }
+
+        private int calmOver(int set, int stances, int ahead) {
             int fewest = FAR;
-            for (int left = Integer.bitCount(nexts); left > 0; left--) {
-                int next = lowestBit(nexts);
-                nexts &= nexts - 1;
-                int behind = rest * STANCES + next;
-                sum += ways[behind];
-                fewest = Math.min(fewest, cell.breaksBetween(stance, next) + calms[behind]);
+            int rest = stances;
+            for (int left = Integer.bitCount(stances); left > 0; left--) {
+                int next = lowestBit(rest);
+                fewest = Math.min(fewest, cell.breaksBetween(ahead, next) + calms[set * STANCES + next]);
+                rest &= rest - 1;
             }
-            ways[spot] = sum;
-            calms[spot] = fewest;
+            return fewest;
         }
 
-        private void sumUp(int all) {
-            total = 0;
-            fewestBreaks = FAR;
-            for (int stance = 0; stance < cell.fingers * TURNS; stance++) {
-                if ((any.firsts[all] >>> stance & 1) != 0) {
-                    total += ways[all * STANCES + stance];
-                    fewestBreaks = Math.min(fewestBreaks, calms[all * STANCES + stance]);
-                }
-            }
-            if (cell.fingers == 0) {
-                total = 1;
-                fewestBreaks = 0;
-            }
-        }
-
-        /** The k-th best one; k is below total. */
+        /** The k-th best one; k is below total(). */
         void layInto(long k, Row row) {
             int set = cell.allFingers();
             int nexts = any.firsts[set];
@@ -1086,13 +1113,7 @@ public final class FingerRows {
 
         long waysFrom(int finger) {
             int all = cell.allFingers();
-            long sum = 0;
-            for (int stance = finger * TURNS; stance < finger * TURNS + TURNS; stance++) {
-                if ((any.firsts[all] >>> stance & 1) != 0) {
-                    sum += ways[all * STANCES + stance];
-                }
-            }
-            return sum;
+            return waysOver(all, any.firsts[all] & ALL_TURNS << finger * TURNS);
         }
 
         /** In how many best ones a finger stands just ahead of another one: by all sets that end with the first. */
@@ -1467,6 +1488,8 @@ public final class FingerRows {
 
         private int size;
         private final int[] nets = new int[MOST_PINS];
+        // by a pin, of the column that is looked at
+        private final long[] offers = new long[MOST_PINS];
         // by the set of pins that have a column yet
         private final long[] prices = new long[1 << MOST_PINS];
 
@@ -1505,13 +1528,14 @@ public final class FingerRows {
 
         /** One pin at most takes the column: sets go down, so that none is used that has it already. */
         private void offer(Wires wires, int column, int all) {
+            for (int pin = 0; pin < size; pin++) {
+                offers[pin] = priceOf(wires, pin, column);
+            }
             for (int set = all; set >= 0; set--) {
-                if (prices[set] == NO_WAY) {
-                    continue;
-                }
-                for (int pin = 0; pin < size; pin++) {
+                long before = prices[set];
+                for (int pin = 0; pin < size && before != NO_WAY; pin++) {
                     int more = set | 1 << pin;
-                    long price = prices[set] + priceOf(wires, pin, column);
+                    long price = before + offers[pin];
                     if (more != set && (prices[more] == NO_WAY || price < prices[more])) {
                         prices[more] = price;
                     }

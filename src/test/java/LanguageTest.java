@@ -115,14 +115,23 @@ public final class LanguageTest {
         while (library.find()) {
             same("library: " + library.group(), List.of("bitCount", "max", "min").contains(library.group(2)));
         }
-        int begin = 0;
-        String[] lines = source.split("\n");
-        for (int i = 0; i < lines.length; i++) {
-            begin = lines[i].matches(" {4,8}[a-z].*\\) ?(throws [\\w, ]+)?\\{") ? i : begin;
-            boolean ends = lines[i].equals("    }") || lines[i].equals("        }");
-            same("a method of some sixty lines ends at " + (i + 1), !ends || i - begin <= 60 || lines[begin].isEmpty()
-                || lines[i].equals("    }"));
+        methodsAreShort(source.split("\n"));
+    }
+
+    private static void methodsAreShort(String[] lines) {
+        int methods = 0;
+        for (int begin = 0; begin < lines.length; begin++) {
+            Matcher head = Pattern.compile("( {4}| {8})[a-zA-Z].*\\(.*\\{").matcher(lines[begin]);
+            if (head.matches()) {
+                int end = begin;
+                while (end < lines.length && !lines[end].equals(head.group(1) + "}")) {
+                    end++;
+                }
+                methods++;
+                same("a method of some sixty lines at line " + (begin + 1), end - begin < 60);
+            }
         }
+        same("methods are found: " + methods, methods > 100);
     }
 
     private static void same(String what, boolean holds) {
