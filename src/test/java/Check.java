@@ -82,6 +82,10 @@ final class Check {
     /** The fault of a text that is wrong; -2 of one that is right. */
     static int faultOf(FingerRows x, String text) {
         feed(x, text);
+        return faultOfTape(x);
+    }
+
+    static int faultOfTape(FingerRows x) {
         try {
             x.cell();
             return -2;

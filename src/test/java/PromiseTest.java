@@ -21,6 +21,7 @@ public final class PromiseTest {
     public static void main(String[] args) {
         promises1To5();
         promise4Texts();
+        promise4Ends();
         promise4Limits();
         promises6To8();
         promise9();
@@ -80,7 +81,8 @@ public final class PromiseTest {
         for (String text : right) {
             Check.due("4: right " + text, -2, Check.faultOf(x, text));
         }
-        Object[][] wrong = {{"", 0}, {"   ", 3}, {"cel 1 1", 0}, {"cells 1 1", 0}, {" Cell 1 1", 1}, {"cell", 4},
+        Object[][] wrong = {{"", 0}, {"   ", 3}, {"cel 1 1", 0}, {"cells 1 1", 0}, {"cellz 1 1", 0}, {"zcell 1 1", 0}, {"cell{1 1", 4}, {"cell`1 1", 4}, {"cell 1 1:", 8},
+            {"cell 1 1/", 8}, {" Cell 1 1", 1}, {"cell", 4},
             {"cell ;", 5}, {"cell 001 1", 5}, {"cell 10 1", 5}, {"cell 1 0", 7}, {"cell 1 1 1", 9}, {"cell 11", 5},
             {"cell 1 1 ;", 10}, {"cell 1 1;;", 9}, {"cell 1 1;foo 1", 9}, {"cell 1 1;cell 1 1", 9},
             {"cell 1 1;up 1", 9}, {"cell 1 1;5", 9}, {"cell 1 1\t", 8}, {"cell 1 1;rail", 13}, {"cell 1 1;rail 12", 14},
@@ -97,6 +99,23 @@ public final class PromiseTest {
             Check.due("5: " + one[0], (Integer) one[1], Check.faultOf(x, (String) one[0]));
         }
         Check.due("4: the last right one stays", 7, Integer.bitCount(x.count(2)));
+    }
+
+    /** What is behind the end of the tape, of this text or an older one, is no part of the text. */
+    private static void promise4Ends() {
+        String[] beyond = {"cell 1 1;railxxxxxxx", "cell 1 1;rail 111111", "cell 1 1;rail 1 1 1 "};
+        int[] ends = {13, 15, 16};
+        int[] faults = {13, -2, -2};
+        for (int i = 0; i < beyond.length; i++) {
+            FingerRows x = new FingerRows();
+            Check.feed(x, beyond[i]);
+            x.end(ends[i]);
+            Check.due("4: an end in " + beyond[i], faults[i], Check.faultOfTape(x));
+        }
+        FingerRows x = new FingerRows();
+        Check.faultOf(x, "cell 1 1;rail 1;rail 2;rail 3;rail 4;rail 5");
+        Check.due("5: an older text behind", 20, Check.faultOf(x, "cell 1 1;rail 2;rail"));
+        Check.due("5: an older text behind", 40, Check.faultOf(x, "cell 1 1;rail 2;rail 1;pin 0;pin 1;pin  "));
     }
 
     private static void promise4Limits() {
