@@ -782,7 +782,7 @@ public final class FingerRows {
         }
 
         private int readNewNet(int nets) {
-            int net = readNet();
+            int net = readNumber(0, NETS - 1);
             if (fault == NONE && has(nets, net)) {
                 fail(begin);
             }
