@@ -1,4 +1,8 @@
+import java.io.IOException;
+import java.io.UncheckedIOException;
 import java.nio.charset.StandardCharsets;
+import java.nio.file.Files;
+import java.nio.file.Path;
 import java.util.Arrays;
 
 /** What all tests share: due answers are compared, texts are told. */
@@ -7,10 +11,34 @@ final class Check {
         long answer();
     }
 
+    private static final Path DOCUMENT = Path.of("../shared/DOC.md");
+
     private static int wrong = 0;
     private static int checked = 0;
+    private static String sentence = "";
+    private static String document = null;
 
     private Check() {
+    }
+
+    /** The words of the document that the next answers are about: they must stand there. */
+    static void says(String words) {
+        sentence = "\"" + words + "\": ";
+        checked++;
+        if (!document().contains(words)) {
+            report("the document does not say so");
+        }
+    }
+
+    private static String document() {
+        if (document == null) {
+            try {
+                document = Files.readString(DOCUMENT).replaceAll("\\s+", " ");
+            } catch (IOException e) {
+                throw new UncheckedIOException(e);
+            }
+        }
+        return document;
     }
 
     static void due(String what, long want, long got) {
@@ -47,7 +75,7 @@ final class Check {
     static void report(String text) {
         wrong++;
         if (wrong <= 40) {
-            System.out.println(text);
+            System.out.println(sentence + text);
         }
     }
 
